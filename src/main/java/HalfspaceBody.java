@@ -410,11 +410,8 @@ public final class HalfspaceBody {
         return shared == 0 ? 3 : 2;
     }
 
-    /** Two corners are neighbours iff no third one lies in all the planes that both lie in. */
+    /** Two different corners are neighbours iff no third one lies in all planes that both lie in. */
     private boolean areNeighbours(int k, int l) {
-        if (k == l) {
-            return false;
-        }
         int shared = touched[k] & touched[l];
         for (int m = 0; m < found; m++) {
             if (m != k && m != l && (touched[m] & shared) == shared) {

@@ -1,6 +1,7 @@
 /**
  * Long runs of calls, told by a fixed row of numbers, each answered by the class and by the
- * reference. The cuts are chosen so that thin, touching and repeated ones come often.
+ * reference, up to the first that differ: what follows a fault tells little. The cuts are chosen
+ * so that thin, touching and repeated ones come often.
  */
 public final class ReferenceTest {
     private static final int RUNS = 600;
@@ -21,7 +22,7 @@ public final class ReferenceTest {
     }
 
     public static void main(String[] args) {
-        for (int run = 0; run < RUNS && Due.wrongSoFar() < 10; run++) {
+        for (int run = 0; run < RUNS && Due.wrongSoFar() == 0; run++) {
             body = new HalfspaceBody();
             reference = new ReferenceBody();
             story = new StringBuilder("run " + run + ":");
@@ -29,7 +30,7 @@ public final class ReferenceTest {
             for (int i = 0; i < size; i++) {
                 addCut();
             }
-            for (int call = size; call < CALLS; call++) {
+            for (int call = size; call < CALLS && Due.wrongSoFar() == 0; call++) {
                 oneCall();
             }
         }
