@@ -410,7 +410,7 @@ public final class HalfspaceBody {
         return shared == 0 ? 3 : 2;
     }
 
-    /** Two different corners are neighbours iff no third one lies in all planes that both lie in. */
+    /** Two different corners are neighbours iff no third is in all the planes that both are in. */
     private boolean areNeighbours(int k, int l) {
         int shared = touched[k] & touched[l];
         for (int m = 0; m < found; m++) {
