@@ -359,11 +359,11 @@ public final class HalfspaceBody {
     }
 
     private int order(int k, int l) {
-        int byX = orderAlong(k, l, 0);
-        if (byX != 0) {
-            return byX;
+        int order = 0;
+        for (int axis = 0; axis < AXES && order == 0; axis++) {
+            order = orderAlong(k, l, axis);
         }
-        return orderAcross(k, l, 1, 2);
+        return order;
     }
 
     private int orderAcross(int k, int l, int u, int v) {

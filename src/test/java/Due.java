@@ -1,16 +1,22 @@
 /** Counts the answers that are not as due and prints them. */
 final class Due {
+    private static String sentence = "";
     private static int asked = 0;
     private static int wrong = 0;
 
     private Due() {
     }
 
+    /** What follows tests this sentence of the document. */
+    static void sentence(String text) {
+        sentence = text + " | ";
+    }
+
     static void is(String what, long got, long want) {
         asked++;
         if (got != want) {
             wrong++;
-            System.out.println(what + " answered " + got + ", due is " + want);
+            System.out.println(sentence + what + " answered " + got + ", due is " + want);
         }
     }
 
