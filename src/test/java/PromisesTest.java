@@ -22,6 +22,7 @@ public final class PromisesTest {
         shadow();
         section();
         objectsAreApart();
+        exampleOfReadme();
         Due.end();
     }
 
@@ -266,5 +267,20 @@ public final class PromisesTest {
         Due.is("a cut of one", one.cut(Bodies.packed(1, 0, 0), 0), 1);
         Due.is("the other is whole", other.whole(), 4913);
         Due.is("the one is cut", one.whole(), 9 * 289);
+    }
+
+    private static void exampleOfReadme() {
+        HalfspaceBody body = new HalfspaceBody();
+        Due.is("README: corners of the box", body.corners(), 8);
+        Due.is("README: the first cut", body.cut(455, 12), 1);
+        Due.is("README: corners after it", body.corners(), 10);
+        Bodies.corner(body, 9, 8, 8, -4, 1);
+        Due.is("README: on", body.on(0), 3);
+        Bodies.most(body, 365, 8, 1);
+        Due.is("README: d is over 60", body.cut(365, 70), HalfspaceBody.BAD);
+        Due.is("README: the second cut", body.cut(366, 5), 2);
+        Bodies.most(body, 365, 5, 2);
+        Due.is("README: drop", body.drop(0), 1);
+        Due.is("README: corners after it", body.corners(), 8);
     }
 }
